@@ -1270,21 +1270,17 @@ public final class RailPasses {
             start = NONE;
             for (int law = 0; law < LAWS; law++) {
                 prepare(book, law);
-                chooseStart(law);
-            }
-            prepare(book, chosen);
-        }
-
-        private void chooseStart(int law) {
-            for (int from = 0; from <= LAST_DAY; from++) {
-                // Only what costs less takes the place of what came ahead of it. A START without a
-                // good day can't: it spares nothing.
-                if (hasGoodDay(from) && costFrom(from) < cost) {
-                    cost = costFrom(from);
-                    chosen = law;
-                    start = from;
+                for (int from = 0; from <= LAST_DAY; from++) {
+                    // Only what costs less takes the place of what came ahead of it. A START without a
+                    // good day can't: it spares nothing.
+                    if (hasGoodDay(from) && costFrom(from) < cost) {
+                        cost = costFrom(from);
+                        chosen = law;
+                        start = from;
+                    }
                 }
             }
+            prepare(book, chosen);
         }
 
         int chosenCost() {

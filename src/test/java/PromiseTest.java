@@ -290,6 +290,19 @@ public final class PromiseTest {
         fault("refund 1;refund 1;", 9);
         fault("lost 101;", 5);
         fault("lost 1;lost 1;", 7);
+        fault("days;price 1;", 4);
+        fault("days 5;price 1;", 6);
+        fault("price ;days 1 of 1;", 6);
+        fault("rail ;price 1;days 1 of 1;", 5);
+        fault("line ;price 1;days 1 of 1;", 5);
+        fault("line out;price 1;days 1 of 1;", 5);
+        fault("line 3 outz;", 7);
+        fault("line 3 outa;", 7);
+        fault("days 1 ofz 1;", 7);
+        fault("days 1 aof 1;", 7);
+        fault("xprice 1;", 0);
+        fault("price 1;days 1 of 1;lice 1;", 20);
+        fault("price 1;days 1 of 1;night", 25);
         fault("out;", 0);
         fault("of;", 0);
         fault("7;", 0);
@@ -623,12 +636,13 @@ public final class PromiseTest {
         choiceIs(x, 79, 0, 10, 2, 3, 10, 14);
         Due.read(x, 2, "days 2 of 5;price 38;");
         choiceIs(x, 78, 2, 10, 2, 3, 10, 14);
-        // Days on which nothing is spared are not spent.
+        // Days on which nothing is spared are not spent, and who pays as much as FARE does not go.
         RailPasses y = land();
         y.train(0, true, 0, 1, false, 0);
         y.train(0, true, 0, 1, false, 9);
         y.wish(0, 1);
         y.wish(1, 2);
+        y.wish(0, 2);
         Due.read(y, 0, "days 5 of 5;price 0;");
         choiceIs(y, 0, 0, 0, 1, 1, 2);
     }
@@ -684,6 +698,26 @@ public final class PromiseTest {
         is("prove 200", y.prove(), 200);
         is("last row", y.row(199, 1), 67);
         is("check 200", y.check(), -1);
+        // STARTS 0 and 120 count too.
+        RailPasses z = trains();
+        RailPasses v = trains();
+        for (int law = 0; law < 3; law++) {
+            Due.read(z, law, "days 1 of 60;price 5;");
+            Due.read(v, law, "days 1 of 60;price 5;");
+        }
+        z.wish(0, 59);
+        z.wish(0, 65);
+        is("prove from 0", z.prove(), 198);
+        is("first row from 0", z.row(0, 1), 0);
+        z.wish(0, 66);
+        is("prove full from 0", z.prove(), -2);
+        v.wish(0, 120);
+        v.wish(0, 114);
+        is("prove to 120", v.prove(), 198);
+        is("last row to 120", v.row(197, 1), 120);
+        is("check to 120", v.check(), -1);
+        v.wish(0, 113);
+        is("prove full to 120", v.prove(), -2);
     }
 
     private void promise22Row() {
@@ -871,6 +905,14 @@ public final class PromiseTest {
         is("ridden k", x.ridden(0, -1, 0), -1);
         is("ridden what", x.ridden(0, 0, 9), -1);
         is("ridden what", x.ridden(0, 0, -1), -1);
+        // Of two days none follows the other, though the minutes would.
+        RailPasses z = sold("days 1 of 1;price 5;");
+        z.days(1);
+        z.scan(0, 1, 200, 1);
+        z.scan(0, 0, 300, 0);
+        z.scan(0, 1, 400, 2);
+        z.scan(0, 0, 100, 1);
+        riddenIs(z, 0, 1, 2, 0, 0, 150, 100, 50, 0, 0, 0);
         // Exactly 3 miles a minute are not DOUBTED; of the same minute the numbers tell the order.
         RailPasses y = sold("days 1 of 1;price 5;");
         y.line(3, 4, 3, 30, false);
@@ -901,6 +943,15 @@ public final class PromiseTest {
         is("part", x.part(0, 1, 0), 33);
         is("part", x.part(0, 2, 0), 0);
         is("part of another", x.part(1, 0, 0), 50);
+        // A single mile.
+        RailPasses z = new RailPasses();
+        z.line(0, 1, 3, 1, false);
+        Due.read(z, 0, "days 1 of 1;price 999;");
+        z.sell(0, 0, false);
+        z.scan(0, 0, 0, 0);
+        z.scan(0, 0, 1, 1);
+        is("part of a mile", z.part(0, 3, 0), 999);
+        is("part of a mile", z.part(0, 0, 0), 0);
         // Three with the same rests: what is left goes to the lesser ones.
         RailPasses y = new RailPasses();
         y.line(0, 1, 4, 10, false);
