@@ -20,6 +20,10 @@ final class Due {
         is(what, so ? 1 : 0, 1);
     }
 
+    int asked() {
+        return asked;
+    }
+
     int wrong() {
         return wrong;
     }

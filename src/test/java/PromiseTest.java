@@ -49,26 +49,6 @@ public final class PromiseTest {
         due.is(what, got, want);
     }
 
-    /** LINE 0: 0-1, RAILWAY 0, 100. 1: 1-2, RAILWAY 1, 50, a BOAT. 2: 0-2, RAILWAY 2, 150. */
-    private static RailPasses land() {
-        RailPasses x = new RailPasses();
-        x.line(0, 1, 0, 100, false);
-        x.line(1, 2, 1, 50, true);
-        x.line(0, 2, 2, 150, false);
-        return x;
-    }
-
-    /** TRAIN 0: plain. 1: FAST with a QUOTA of 2. 2: a BOAT. 3: 22:00, OVER MIDNIGHT. 4: a FAST BOAT, QUOTA 9. */
-    private static RailPasses trains() {
-        RailPasses x = land();
-        x.train(0, true, 600, 100, false, 40);
-        x.train(0, false, 700, 100, true, 2060);
-        x.train(1, true, 800, 60, false, 55);
-        x.train(2, true, 1320, 120, false, 80);
-        x.train(1, false, 900, 60, true, 9101);
-        return x;
-    }
-
     private void promise1New() {
         RailPasses x = new RailPasses();
         for (int what = 0; what <= 9; what++) {
@@ -109,7 +89,7 @@ public final class PromiseTest {
     }
 
     private void promise3Train() {
-        RailPasses x = land();
+        RailPasses x = Lands.land();
         is("train no line", x.train(3, true, 0, 1, false, 0), -1);
         is("train line -1", x.train(-1, true, 0, 1, false, 0), -1);
         is("train departs -1", x.train(0, true, -1, 1, false, 0), -1);
@@ -133,7 +113,7 @@ public final class PromiseTest {
     }
 
     private void promise4Of() {
-        RailPasses x = land();
+        RailPasses x = Lands.land();
         x.train(1, true, 1200, 239, false, 9500);
         x.train(2, false, 1200, 240, true, 1007);
         int[][] want = {{1, 1, 2, 1200, 239, 0, 500, 9, 0}, {2, 2, 0, 1200, 240, 1, 7, 1, 1}};
@@ -354,7 +334,7 @@ public final class PromiseTest {
     }
 
     private void promise10Pass() {
-        RailPasses x = trains();
+        RailPasses x = Lands.trains();
         Due.read(x, 0, "days 3 of 10;price 100;child 33;refund 50;lost 25;fast 7;boat 50;night 20;");
         x.sell(0, 5, false);
         x.sell(0, 120, true);
@@ -383,7 +363,7 @@ public final class PromiseTest {
     }
 
     private void promise11May() {
-        RailPasses x = trains();
+        RailPasses x = Lands.trains();
         Due.read(x, 0, "days 2 of 4;price 100;rail 0;rail 2;night 22;");
         Due.read(x, 1, "days 60 of 60;price 100;line 0 out;night 23;");
         x.sell(0, 10, false);
@@ -419,7 +399,7 @@ public final class PromiseTest {
         is("may day", x.may(0, 0, -1), -1);
         is("may changes nothing", x.many(4), 3);
         // No QUOTA at all bars FAST ones alone.
-        RailPasses y = land();
+        RailPasses y = Lands.land();
         y.train(0, true, 0, 1, true, 5);
         y.train(0, true, 0, 1, false, 5);
         Due.read(y, 0, "days 1 of 1;price 1;");
@@ -438,7 +418,7 @@ public final class PromiseTest {
     }
 
     private void promise12Ride() {
-        RailPasses x = trains();
+        RailPasses x = Lands.trains();
         Due.read(x, 0, "days 1 of 2;price 100;fast 7;boat 33;");
         x.sell(0, 0, false);
         x.sell(0, 0, true);
@@ -463,7 +443,7 @@ public final class PromiseTest {
     }
 
     private void promise13RideOf() {
-        RailPasses x = trains();
+        RailPasses x = Lands.trains();
         Due.read(x, 0, "days 3 of 5;price 100;fast 7;boat 33;night 22;");
         x.sell(0, 0, false);
         x.sell(0, 0, false);
@@ -482,7 +462,7 @@ public final class PromiseTest {
     }
 
     private void promise14GiveBack() {
-        RailPasses x = trains();
+        RailPasses x = Lands.trains();
         Due.read(x, 0, "days 3 of 5;price 100;");
         x.sell(0, 0, false);
         is("giveBack none", x.giveBack(0), -1);
@@ -504,7 +484,7 @@ public final class PromiseTest {
     }
 
     private void promise15Taken() {
-        RailPasses x = trains();
+        RailPasses x = Lands.trains();
         Due.read(x, 0, "days 3 of 5;price 100;night 0;");
         x.sell(0, 0, false);
         x.sell(0, 0, false);
@@ -524,7 +504,7 @@ public final class PromiseTest {
     }
 
     private void promise16Lose() {
-        RailPasses x = trains();
+        RailPasses x = Lands.trains();
         Due.read(x, 0, "days 3 of 5;price 100;refund 90;lost 50;");
         x.sell(0, 0, false);
         x.ride(0, 0, 0);
@@ -539,7 +519,7 @@ public final class PromiseTest {
     }
 
     private void promise17Wish() {
-        RailPasses x = trains();
+        RailPasses x = Lands.trains();
         is("wish train", x.wish(5, 0), -1);
         is("wish train", x.wish(-1, 0), -1);
         is("wish day", x.wish(0, 121), -1);
@@ -552,7 +532,7 @@ public final class PromiseTest {
     }
 
     private void promise18Unwish() {
-        RailPasses x = trains();
+        RailPasses x = Lands.trains();
         is("unwish none", x.unwish(), -3);
         x.wish(0, 1);
         x.wish(3, 1);
@@ -569,7 +549,7 @@ public final class PromiseTest {
     }
 
     private void promise19Choice() {
-        RailPasses x = trains();
+        RailPasses x = Lands.trains();
         is("choice what", x.choice(-1), -1);
         is("choice what", x.choice(15), -1);
         choiceIs(x, 0, -3, -3, 0, 0);
@@ -594,17 +574,17 @@ public final class PromiseTest {
         Due.read(x, 2, "days 20 of 20;price 179;child 0;");
         choiceIs(x, 179, 2, 0, 2, 3, 3, 9);
         // A boat: percents of FARE are paid, the rest away.
-        RailPasses y = trains();
+        RailPasses y = Lands.trains();
         y.wish(2, 120);
         Due.read(y, 0, "days 1 of 1;price 10;boat 33;");
         choiceIs(y, 28, 0, 120, 1, 1, 120);
         // Ten days.
-        RailPasses z = trains();
+        RailPasses z = Lands.trains();
         for (int i = 9; i >= 0; i--) z.wish(0, 100 + 2 * i);
         Due.read(z, 1, "days 10 of 19;price 0;");
         choiceIs(z, 0, 1, 100, 10, 10, 100, 102, 104, 106, 108, 110, 112, 114, 116, 118);
         // A night train of the last day counts on the day behind it.
-        RailPasses v = trains();
+        RailPasses v = Lands.trains();
         v.wish(3, 120);
         Due.read(v, 0, "days 1 of 2;price 1;night 1;");
         choiceIs(v, 1, 0, 120, 1, 1, 121);
@@ -613,7 +593,7 @@ public final class PromiseTest {
     }
 
     private void promise19Ties() {
-        RailPasses x = trains();
+        RailPasses x = Lands.trains();
         x.wish(0, 10);
         x.wish(0, 12);
         x.wish(0, 14);
@@ -637,7 +617,7 @@ public final class PromiseTest {
         Due.read(x, 2, "days 2 of 5;price 38;");
         choiceIs(x, 78, 2, 10, 2, 3, 10, 14);
         // Days on which nothing is spared are not spent, and who pays as much as FARE does not go.
-        RailPasses y = land();
+        RailPasses y = Lands.land();
         y.train(0, true, 0, 1, false, 0);
         y.train(0, true, 0, 1, false, 9);
         y.wish(0, 1);
@@ -648,7 +628,7 @@ public final class PromiseTest {
     }
 
     private void promise20Least() {
-        RailPasses x = trains();
+        RailPasses x = Lands.trains();
         is("least none", x.least(0, 0), -3);
         is("least law", x.least(-1, 0), -1);
         is("least law", x.least(3, 0), -1);
@@ -667,7 +647,7 @@ public final class PromiseTest {
     }
 
     private void promise21Prove() {
-        RailPasses x = trains();
+        RailPasses x = Lands.trains();
         is("prove", x.prove(), 0);
         x.wish(0, 3);
         is("prove no law", x.prove(), 0);
@@ -682,7 +662,7 @@ public final class PromiseTest {
             }
         }
         // 60 and 60 and 60 STARTS for a DAY, 20 more for another: 200 fit, 201 don't.
-        RailPasses y = trains();
+        RailPasses y = Lands.trains();
         y.wish(0, 60);
         Due.read(y, 0, "days 1 of 60;price 5;");
         Due.read(y, 1, "days 1 of 60;price 5;");
@@ -699,8 +679,8 @@ public final class PromiseTest {
         is("last row", y.row(199, 1), 67);
         is("check 200", y.check(), -1);
         // STARTS 0 and 120 count too.
-        RailPasses z = trains();
-        RailPasses v = trains();
+        RailPasses z = Lands.trains();
+        RailPasses v = Lands.trains();
         for (int law = 0; law < 3; law++) {
             Due.read(z, law, "days 1 of 60;price 5;");
             Due.read(v, law, "days 1 of 60;price 5;");
@@ -721,7 +701,7 @@ public final class PromiseTest {
     }
 
     private void promise22Row() {
-        RailPasses x = trains();
+        RailPasses x = Lands.trains();
         is("row none", x.row(0, 0), -3);
         is("row number ahead of none", x.row(0, 3), -1);
         is("row number ahead of none", x.row(0, -1), -1);
@@ -740,7 +720,7 @@ public final class PromiseTest {
     }
 
     private void promise23Forge() {
-        RailPasses x = trains();
+        RailPasses x = Lands.trains();
         is("forge none", x.forge(0, 0, 1), -3);
         is("forge number ahead of none", x.forge(0, 3, 1), -1);
         Due.read(x, 1, "days 1 of 1;price 5;");
@@ -763,7 +743,7 @@ public final class PromiseTest {
     }
 
     private void promise24Check() {
-        RailPasses x = trains();
+        RailPasses x = Lands.trains();
         is("check of nothing", x.check(), -1);
         Due.read(x, 1, "days 1 of 2;price 5;");
         x.wish(0, 3);
@@ -782,7 +762,7 @@ public final class PromiseTest {
         x.unwish();
         is("check more than due", x.check(), 0);
         // More rows than due, the first ones being right: the first of the others.
-        RailPasses y = land();
+        RailPasses y = Lands.land();
         y.train(0, true, 0, 1, false, 0);
         Due.read(y, 0, "days 1 of 1;price 5;");
         y.wish(0, 3);
@@ -793,7 +773,7 @@ public final class PromiseTest {
     }
 
     private void promise25Scan() {
-        RailPasses x = trains();
+        RailPasses x = Lands.trains();
         is("scan no pass", x.scan(0, 0, 0, 0), -1);
         Due.read(x, 0, "days 1 of 1;price 5;");
         x.sell(0, 100, false);
@@ -813,7 +793,7 @@ public final class PromiseTest {
     }
 
     private void promise26Miles() {
-        RailPasses x = land();
+        RailPasses x = Lands.land();
         is("miles", x.miles(0, 1), 100);
         is("miles", x.miles(1, 0), 100);
         is("miles", x.miles(2, 0), 150);
@@ -834,7 +814,7 @@ public final class PromiseTest {
     }
 
     private void promise27Way() {
-        RailPasses x = land();
+        RailPasses x = Lands.land();
         is("way", x.way(0, 2), 3);
         is("way", x.way(2, 0), 3);
         is("way", x.way(2, 1), 2);
@@ -861,7 +841,7 @@ public final class PromiseTest {
     }
 
     private static RailPasses sold(String text) {
-        RailPasses x = land();
+        RailPasses x = Lands.land();
         Due.read(x, 0, text);
         x.sell(0, 0, false);
         x.sell(0, 0, true);
@@ -993,7 +973,7 @@ public final class PromiseTest {
     }
 
     private void promise31Many() {
-        RailPasses x = trains();
+        RailPasses x = Lands.trains();
         Due.read(x, 0, "days 1 of 4;price 5;");
         Due.read(x, 2, "days 1 of 1;price 5;");
         Due.read(x, 2, "days 1 of 1;price 5;");
@@ -1014,7 +994,7 @@ public final class PromiseTest {
     }
 
     private void promise32Keep() {
-        RailPasses x = trains();
+        RailPasses x = Lands.trains();
         is("keep", x.keep(), 1);
         is("keep again", x.keep(), 1);
         Due.read(x, 0, "days 2 of 2;price 5;lost 100;");
@@ -1057,7 +1037,7 @@ public final class PromiseTest {
     }
 
     private void promise33Back() {
-        RailPasses x = trains();
+        RailPasses x = Lands.trains();
         is("back none", x.back(), -3);
         is("back none changes nothing", x.many(0), 3);
         x.wish(0, 1);
