@@ -131,6 +131,13 @@ final class LawSentences extends SentenceTests {
         is("first part", Due.read(x, 1, "days 1 of 1;"), -112);
         is("second part", Due.read(x, 1, "price 1;"), -108);
         is("no LAW of them", x.law(1, 0), NONE);
+        // Of a longer TEXT nothing is left behind a shorter one, wherever that ends.
+        RailPasses y = new RailPasses();
+        String text = "days 11 of 22;price 333;";
+        for (int cut = 0; cut < text.length(); cut++) {
+            is("the longer one", Due.read(y, 0, text), 2);
+            is("cut at " + cut, Due.read(y, 0, text.substring(0, cut)), readOf(text.substring(0, cut)));
+        }
     }
 
     private void rulesInAnyOrder() {
@@ -179,6 +186,17 @@ final class LawSentences extends SentenceTests {
             good(sound.toString(), rules);
         }
         // Words that are only like the right ones.
+        for (String kind : KINDS) {
+            for (int at = 0; at < kind.indexOf(' '); at++) {
+                char other = kind.charAt(at) == 'z' ? 'a' : (char) (kind.charAt(at) + 1);
+                faultBehind("", kind.substring(0, at) + other + kind.substring(at + 1) + ";");
+            }
+        }
+        faultBehind("days 1 ", "pf 1;");
+        faultBehind("days 1 ", "og 1;");
+        faultBehind("line 1 ", "put;");
+        faultBehind("line 1 ", "ovt;");
+        faultBehind("line 1 ", "ouu;");
         for (String word : new String[] {"day", "prices", "rails", "lines", "nights", "faster", "boats", "children", "refunds",
             "losts", "los", "pric", "rai", "lin", "nigh", "fas", "boa", "chil", "refun", "d", "linen", "loss"}) {
             faultBehind(NEEDED, word + " 1;");
@@ -276,6 +294,13 @@ final class LawSentences extends SentenceTests {
         faultBehind("days 1 ", "2 of 34;");
         faultBehind("", "da ys 1 of 1;");
         faultBehind("days 1 ", "o f 1;");
+        // A WORD that the end cuts short is a WORD, and none that may stand there.
+        faultBehind("", "d");
+        faultBehind("", "day");
+        faultBehind("days 1 of 1;", "pric");
+        faultBehind("days 1 ", "o");
+        faultBehind("line 1 ", "ou");
+        faultBehind("days 12 of ", "1");
     }
 
     private void blanksWhereTheyMust() {

@@ -321,6 +321,16 @@ final class RideSentences extends SentenceTests {
             is("BOAT of 1, " + law, x.ride(0, 6, 0), t[1] == 100 ? 1 : 0);
             is("BOAT of 0, " + law, x.ride(0, 7, 0), 0);
         }
+        // Whether it is a BOAT is told by its LINE alone, not by where that goes.
+        RailPasses y = new RailPasses();
+        y.line(0, 9, 0, 10, true);
+        y.line(1, 9, 1, 10, false);
+        y.train(0, true, 0, 1, false, 100);
+        y.train(1, true, 0, 1, false, 100);
+        Due.read(y, 0, "days 1 of 1;price 1;boat 50;");
+        y.sell(0, 0, false);
+        is("BOAT from 0", y.ride(0, 0, 0), 50);
+        is("RAIL from 1", y.ride(0, 1, 0), 0);
     }
 
     private void ridesAtMost() {

@@ -320,6 +320,13 @@ final class ScanSentences extends SentenceTests {
         says("PARTS: what the PASS COSTS, parted by these MILES: each RAILWAY gets COSTS times its MILES by all MILES, the rest away;");
         partsAre("100 by 25 and 75", riddenRow(100, 25, 75), 0, 25, 75, 0, 0, 0);
         partsAre("999 by one", riddenRow(999, 300), 0, 999, 0, 0, 0, 0);
+        partsAre("999 by one MILE", riddenRow(999, 1), 0, 999, 0, 0, 0, 0);
+        RailPasses mile = new RailPasses();
+        mile.line(0, 1, 3, 1, false);
+        sold(mile, 999);
+        mile.scan(0, 0, 0, 0);
+        mile.scan(0, 0, 1, 1);
+        partsAre("999 by one MILE of RAILWAY 3", mile, 0, 0, 0, 0, 999, 0);
         partsAre("0 by two", riddenRow(0, 10, 20), 0, 0, 0, 0, 0, 0);
         partsAre("15 by five", riddenRow(15, 1, 2, 3, 4, 5), 0, 1, 2, 3, 4, 5);
         RailPasses x = riddenRow(100, 25, 75);

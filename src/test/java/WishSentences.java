@@ -324,16 +324,23 @@ final class WishSentences extends SentenceTests {
         choiceIs("no START ahead of 0", x, 1, 0, 0, 1, 1, 0);
         is("a row for 0 alone", x.prove(), 1);
         is("its START", x.row(0, 1), 0);
+        is("which is right", x.check(), -1);
+        x.forge(0, 2, 0);
+        is("and then not", x.check(), 0);
         RailPasses y = wished(0, 120);
         Due.read(y, 0, "days 1 of 1;price 1;");
         choiceIs("START 120", y, 1, 0, 120, 1, 1, 120);
         is("a row for 120", y.prove(), 1);
         is("its START", y.row(0, 1), 120);
+        is("which is right", y.check(), -1);
+        y.forge(0, 2, 0);
+        is("and then not", y.check(), 0);
         // The night of 120 is counted on 121, and no START is.
         RailPasses z = wished(3, 120);
         Due.read(z, 0, "days 1 of 1;price 1;night 22;");
         choiceIs("no START 121", z, 80, NONE, NONE, 0, 0);
         is("no row", z.prove(), 0);
+        is("and none is due", z.check(), -1);
         Due.read(z, 0, "days 1 of 3;price 1;night 22;");
         choiceIs("START 119", z, 1, 0, 119, 1, 1, 121);
         is("rows for 119 and 120", z.prove(), 2);
@@ -499,6 +506,18 @@ final class WishSentences extends SentenceTests {
             is("unwish of " + (i + 1), x.unwish(), i);
             is("FARES of the others", x.choice(0), sum);
         }
+        // Nor is a WISH that went in THE CHOICE: the latest ones are of the latest DAYS.
+        RailPasses y = wished(0, 10, 11, 12, 13, 14, 15, 16, 17, 18, 19);
+        Due.read(y, 0, "days 9 of 10;price 1;");
+        choiceIs("ten", y, 41, 0, 9, 9, 9, 10, 11, 12, 13, 14, 15, 16, 17, 18);
+        y.unwish();
+        choiceIs("nine", y, 1, 0, 9, 9, 9, 10, 11, 12, 13, 14, 15, 16, 17, 18);
+        y.unwish();
+        choiceIs("eight", y, 1, 0, 8, 8, 8, 10, 11, 12, 13, 14, 15, 16, 17);
+        Due.read(y, 0, "days 8 of 20;price 1;");
+        choiceIs("eight of 20", y, 1, 0, 0, 8, 8, 10, 11, 12, 13, 14, 15, 16, 17);
+        y.unwish();
+        choiceIs("seven of 20", y, 1, 0, 0, 7, 7, 10, 11, 12, 13, 14, 15, 16);
     }
 
     private void unwishNone() {
@@ -619,6 +638,20 @@ final class WishSentences extends SentenceTests {
         }
         is("far more", z.prove(), FULL);
         is("none stay none", z.many(6), 0);
+        // STARTS 0 and 120 count, -1 and 121 don't: 66 for each LAW are 198, 67 are 201.
+        is("STARTS 0 to 65", rowsOfSixties(58, 65), 198);
+        is("STARTS 0 to 66", rowsOfSixties(58, 66), FULL);
+        is("STARTS 55 to 120", rowsOfSixties(114, 120), 198);
+        is("STARTS 54 to 120", rowsOfSixties(113, 120), FULL);
+    }
+
+    /** What prove answers for WISHES on two DAYS and three LAWS of 60 DAYS. */
+    private static int rowsOfSixties(int day, int other) {
+        RailPasses x = wished(0, day, other);
+        for (int law = 0; law < 3; law++) {
+            Due.read(x, law, "days 1 of 60;price 5;");
+        }
+        return x.prove();
     }
 
     private void ofARow() {
