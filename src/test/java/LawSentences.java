@@ -387,7 +387,8 @@ final class LawSentences extends SentenceTests {
 
     private void faultNumbers() {
         says("(so a NUMBER of more than 3 digits, or one that is not as told;");
-        for (String number : new String[] {"0000", "0001", "1000", "9999", "00000000000000000001", "4294967297", "18446744073709551617"}) {
+        String[] tooLong = {"0000", "0001", "1000", "9999", "00000000000000000001", "4294967297", "18446744073709551617"};
+        for (String number : tooLong) {
             faultBehind("price ", number + ";");
             faultBehind("fast ", number + ";");
             faultBehind("days ", number + " of 1;");

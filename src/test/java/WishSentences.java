@@ -518,6 +518,13 @@ final class WishSentences extends SentenceTests {
         choiceIs("eight of 20", y, 1, 0, 0, 8, 8, 10, 11, 12, 13, 14, 15, 16, 17);
         y.unwish();
         choiceIs("seven of 20", y, 1, 0, 0, 7, 7, 10, 11, 12, 13, 14, 15, 16);
+        // Nor does a dearer one that went take a DAY from others.
+        RailPasses z = wished(0, 10, 11);
+        z.wish(3, 12);
+        Due.read(z, 0, "days 2 of 20;price 1;");
+        choiceIs("a dearer one", z, 41, 0, 0, 2, 2, 10, 12);
+        z.unwish();
+        choiceIs("it went", z, 1, 0, 0, 2, 2, 10, 11);
     }
 
     private void unwishNone() {
