@@ -363,7 +363,7 @@ public final class RailPasses {
             return NONE;
         }
         plan.prepare(now, law);
-        return plan.costFrom(start);
+        return plan.spend(start);
     }
 
     public int prove() {
@@ -1150,11 +1150,16 @@ public final class RailPasses {
         private final int[] spared = new int[MOST_WISHES];
         private final int[] goers = new int[MOST_WISHES];
         private int size;
+        // The places of those that spare something: what spares most comes first, of several the lesser day.
+        private final int[] ranked = new int[MOST_WISHES];
+        private int rankedSize;
 
         private int daysToSpend;
         private int within;
         private int price;
         private int fares;
+        // The places of the days that were spent latest, as bits.
+        private int spent;
 
         private int cost;
         private int chosen;
@@ -1170,6 +1175,7 @@ public final class RailPasses {
             for (int i = 0; i < book.wishes.size(); i++) {
                 prepareWish(book, law, book.wishes.get(i, WISH_TRAIN), book.wishes.get(i, WISH_DAY));
             }
+            rankDays();
         }
 
         private void prepareWish(Book book, int law, int train, int day) {
@@ -1221,6 +1227,35 @@ public final class RailPasses {
             return at >= 0 && at < goers.length ? goers[at] : 0;
         }
 
+        private void rankDays() {
+            rankedSize = 0;
+            for (int at = 0; at < size; at++) {
+                if (sparedAt(at) > 0) {
+                    rankDay(at);
+                }
+            }
+        }
+
+        private void rankDay(int at) {
+            int rank = rankedSize;
+            while (rank > 0 && sparedAt(rankedAt(rank - 1)) < sparedAt(at)) {
+                setRanked(rank, rankedAt(rank - 1));
+                rank--;
+            }
+            setRanked(rank, at);
+            rankedSize++;
+        }
+
+        private int rankedAt(int rank) {
+            return rank >= 0 && rank < ranked.length ? ranked[rank] : -1;
+        }
+
+        private void setRanked(int rank, int at) {
+            if (rank >= 0 && rank < ranked.length) {
+                ranked[rank] = at;
+            }
+        }
+
         /** Whether some WISH's COUNTED DAY is good from this START. */
         boolean hasGoodDay(int from) {
             for (int at = 0; at < size; at++) {
@@ -1231,38 +1266,31 @@ public final class RailPasses {
             return false;
         }
 
-        /** The least that a CHOICE with the LAW prepared for and this START COSTS. */
-        int costFrom(int from) {
+        private boolean isGood(int at, int from) {
+            return dayAt(at) >= from && dayAt(at) < from + within;
+        }
+
+        /** Spends days as the best CHOICE with the LAW prepared for and this START does: what it COSTS. */
+        int spend(int from) {
             int sum = price + fares;
-            for (int at = 0; at < size; at++) {
-                if (isSpent(at, from)) {
+            int left = daysToSpend;
+            spent = 0;
+            for (int rank = 0; rank < rankedSize && left > 0; rank++) {
+                int at = rankedAt(rank);
+                if (isGood(at, from)) {
                     sum -= sparedAt(at);
+                    spent |= 1 << at;
+                    left--;
                 }
             }
             return sum;
         }
 
-        private boolean isGood(int at, int from) {
-            return dayAt(at) >= from && dayAt(at) < from + within;
+        private boolean isSpent(int at) {
+            return (spent >> at & 1) == 1;
         }
 
-        /** Whether the best CHOICE from this START spends the day: it does on the ones that spare most. */
-        private boolean isSpent(int at, int from) {
-            return sparedAt(at) > 0 && isGood(at, from) && betterDays(at, from) < daysToSpend;
-        }
-
-        private int betterDays(int at, int from) {
-            int n = 0;
-            for (int other = 0; other < size; other++) {
-                boolean isBetter = sparedAt(other) > sparedAt(at) || sparedAt(other) == sparedAt(at) && other < at;
-                if (isBetter && isGood(other, from)) {
-                    n++;
-                }
-            }
-            return n;
-        }
-
-        /** Finds THE CHOICE, and leaves all prepared for its LAW. */
+        /** Finds THE CHOICE, and leaves its days spent. */
         void choose(Book book) {
             prepare(book, NONE);
             cost = fares;
@@ -1271,16 +1299,18 @@ public final class RailPasses {
             for (int law = 0; law < LAWS; law++) {
                 prepare(book, law);
                 for (int from = 0; from <= LAST_DAY; from++) {
-                    // Only what costs less takes the place of what came ahead of it. A START without a
-                    // good day can't: it spares nothing.
-                    if (hasGoodDay(from) && costFrom(from) < cost) {
-                        cost = costFrom(from);
+                    // Only what costs less takes the place of what came ahead of it. A LAW that is not
+                    // there can't: it has no good day, so it spares nothing.
+                    int costs = spend(from);
+                    if (costs < cost) {
+                        cost = costs;
                         chosen = law;
                         start = from;
                     }
                 }
             }
             prepare(book, chosen);
+            spend(start);
         }
 
         int chosenCost() {
@@ -1296,19 +1326,13 @@ public final class RailPasses {
         }
 
         int chosenDays() {
-            int n = 0;
-            for (int at = 0; at < size; at++) {
-                if (isSpent(at, start)) {
-                    n++;
-                }
-            }
-            return n;
+            return Integer.bitCount(spent);
         }
 
         int chosenGoers() {
             int sum = 0;
             for (int at = 0; at < size; at++) {
-                if (isSpent(at, start)) {
+                if (isSpent(at)) {
                     sum += goersAt(at);
                 }
             }
@@ -1318,7 +1342,7 @@ public final class RailPasses {
         int chosenDay(int i) {
             int n = 0;
             for (int at = 0; at < size; at++) {
-                if (isSpent(at, start)) {
+                if (isSpent(at)) {
                     if (n == i) {
                         return dayAt(at);
                     }
@@ -1358,7 +1382,7 @@ public final class RailPasses {
                         int made = rows.append();
                         rows.set(made, ROW_LAW, law);
                         rows.set(made, ROW_START, start);
-                        rows.set(made, ROW_LEAST, plan.costFrom(start));
+                        rows.set(made, ROW_LEAST, plan.spend(start));
                     }
                 }
             }
@@ -1371,7 +1395,7 @@ public final class RailPasses {
                 plan.prepare(book, law);
                 for (int start = 0; start <= LAST_DAY; start++) {
                     if (plan.hasGoodDay(start)) {
-                        if (!isRow(i, law, start, plan.costFrom(start))) {
+                        if (!isRow(i, law, start, plan.spend(start))) {
                             return i;
                         }
                         i++;
